@@ -8,6 +8,7 @@ public final class MirrorTest {
         syncSendsEndsOfOldRecords();
         syncSendsOnlyWhatChanged();
         syncKeepsItsGoal();
+        syncLeavesLaterEndsOut();
         syncLeavesOpenChangesOut();
         syncStopsAtAFullMirror();
         fullMirrorStillTakesEnds();
@@ -151,6 +152,25 @@ public final class MirrorTest {
         Checks.due("rewritten", x.read(3, 0, 2), 33);
         Checks.due("before", x.read(3, 0, 1), 4);
         Checks.due("new", x.read(9, 0, 2), 9);
+    }
+
+    private static void syncLeavesLaterEndsOut() {
+        Checks.part("promise 14, ends above the goal");
+        HistoricalTreeStore x = new HistoricalTreeStore();
+        Runs.fill(x, 1, 4);
+        Checks.due("sync", x.sync(50), 3);
+        Checks.due("remove", x.remove(1, 0), true);
+        Checks.due("remove", x.remove(3, 0), true);
+        Checks.due("commit", x.commit(), 2);
+        Checks.due("the first end", x.sync(1), 1);
+        Checks.due("an end while it is under way", x.remove(2, 0), true);
+        Checks.due("commit", x.commit(), 3);
+        Checks.due("is not sent with it", x.sync(50), 1);
+        Checks.due("synced", x.synced(), 2);
+        Checks.due("but with the next", x.sync(50), 1);
+        Checks.due("synced", x.synced(), 3);
+        Checks.due("use", x.use(1), true);
+        Checks.due("told", x.has(2, 0, 3), false);
     }
 
     private static void syncLeavesOpenChangesOut() {
