@@ -195,7 +195,7 @@ public final class MirrorTest {
         Runs.fill(x, 0, 60);
         Checks.due("sync", x.sync(50), 50);
         Checks.due("sync", x.sync(50), 10);
-        endAll(x, 0, 60);
+        Runs.endAll(x, 0, 60);
         Checks.due("sync", x.sync(50), 50);
         Checks.due("sync", x.sync(50), 10);
         Checks.due("prune the master", x.prune(), 60);
@@ -261,14 +261,5 @@ public final class MirrorTest {
         Checks.due("value", x.read(1, 0, 1), 2);
         Checks.due("end", x.has(1, 0, 2), false);
         Checks.due("synced", x.synced(), 2);
-    }
-
-    private static void endAll(HistoricalTreeStore x, int first, int end) {
-        for (int obj = first; obj < end; obj++) {
-            Checks.due("remove to end all", x.remove(obj, 0), true);
-            if ((obj - first) % 40 == 39 || obj == end - 1) {
-                x.commit();
-            }
-        }
     }
 }

@@ -85,16 +85,16 @@ public final class QuestionsTest {
         int key = LOW;
         for (int i : order) {
             Checks.due("next", x.next(obj, key, 1), true);
-            foundIs(x, objs[i], keys[i], 100 + i, 1);
+            Looks.foundIs(x, objs[i], keys[i], 100 + i, 1);
             obj = objs[i];
             key = keys[i];
         }
         Checks.due("next after the last", x.next(obj, key, 1), false);
-        foundIs(x, 2, 5, 100, 1);
+        Looks.foundIs(x, 2, 5, 100, 1);
         Checks.due("key counts before obj grows", x.next(2, 4, 1), true);
-        foundIs(x, 2, 5, 100, 1);
+        Looks.foundIs(x, 2, 5, 100, 1);
         Checks.due("a great key", x.next(-1, HIGH, 1), true);
-        foundIs(x, 0, 0, 103, 1);
+        Looks.foundIs(x, 0, 0, 103, 1);
         Checks.due("nothing at 0", x.next(LOW, LOW, 0), false);
     }
 
@@ -104,13 +104,13 @@ public final class QuestionsTest {
         Checks.due("write", x.write(LOW, LOW, 1), true);
         Checks.due("write", x.write(HIGH, HIGH, 2), true);
         Checks.due("next after the least", x.next(LOW, LOW, 1), true);
-        foundIs(x, HIGH, HIGH, 2, 1);
+        Looks.foundIs(x, HIGH, HIGH, 2, 1);
         Checks.due("next after the greatest", x.next(HIGH, HIGH, 1), false);
         Checks.due("write", x.write(LOW, LOW + 1, 3), true);
         Checks.due("next after the least", x.next(LOW, LOW, 1), true);
-        foundIs(x, LOW, LOW + 1, 3, 1);
+        Looks.foundIs(x, LOW, LOW + 1, 3, 1);
         Checks.due("next before the greatest", x.next(HIGH, HIGH - 1, 1), true);
-        foundIs(x, HIGH, HIGH, 2, 1);
+        Looks.foundIs(x, HIGH, HIGH, 2, 1);
     }
 
     private static void nextSeesOnlyTheVisible() {
@@ -123,16 +123,16 @@ public final class QuestionsTest {
         Runs.commitWrites(x, 2, 2, 1);
         Checks.due("at 0", x.next(0, 0, 0), false);
         Checks.due("at 1", x.next(0, 0, 1), true);
-        foundIs(x, 1, 1, 1, 1);
+        Looks.foundIs(x, 1, 1, 1, 1);
         Checks.due("beyond, at 1", x.next(1, 1, 1), false);
         Checks.due("at 2", x.next(1, 1, 2), true);
-        foundIs(x, 2, 2, 2, 2);
+        Looks.foundIs(x, 2, 2, 2, 2);
         Checks.due("at 3", x.next(0, 0, 3), true);
-        foundIs(x, 2, 2, 2, 2);
+        Looks.foundIs(x, 2, 2, 2, 2);
         Checks.due("at 4", x.next(0, 0, 4), true);
-        foundIs(x, 2, 2, 4, 4);
+        Looks.foundIs(x, 2, 2, 4, 4);
         Checks.due("later", x.next(0, 0, HIGH), true);
-        foundIs(x, 2, 2, 4, 4);
+        Looks.foundIs(x, 2, 2, 4, 4);
     }
 
     private static void nextAsksTheVolumeInUse() {
@@ -142,32 +142,32 @@ public final class QuestionsTest {
         Checks.due("sync two", x.sync(2), 2);
         Checks.due("use 1", x.use(1), true);
         Checks.due("next", x.next(1, 0, 1), true);
-        foundIs(x, 2, 0, 3, 1);
+        Looks.foundIs(x, 2, 0, 3, 1);
         Checks.due("not sent yet", x.next(2, 0, 1), false);
         Checks.due("use 0", x.use(0), true);
         Checks.due("found does not follow use", x.found(0), 2);
         Checks.due("next", x.next(2, 0, 1), true);
-        foundIs(x, 3, 0, 4, 1);
+        Looks.foundIs(x, 3, 0, 4, 1);
     }
 
     private static void foundTellsTheLatestNext() {
         Checks.part("promise 11, found");
         HistoricalTreeStore x = new HistoricalTreeStore();
-        foundIs(x, 0, 0, 0, 0);
+        Looks.foundIs(x, 0, 0, 0, 0);
         Checks.due("next that finds none", x.next(0, 0, 1), false);
-        foundIs(x, 0, 0, 0, 0);
+        Looks.foundIs(x, 0, 0, 0, 0);
         Runs.commitWrites(x, 7, 8, 1);
         Checks.due("write", x.write(7, 8, -9), true);
         Checks.due("next", x.next(0, 0, 2), true);
-        foundIs(x, 7, 8, -9, 2);
+        Looks.foundIs(x, 7, 8, -9, 2);
         Checks.due("write again", x.write(7, 8, 10), true);
-        foundIs(x, 7, 8, -9, 2);
+        Looks.foundIs(x, 7, 8, -9, 2);
         Checks.due("abort", x.abort(), 2);
-        foundIs(x, 7, 8, -9, 2);
+        Looks.foundIs(x, 7, 8, -9, 2);
         Checks.due("next that finds none", x.next(7, 8, 2), false);
-        foundIs(x, 7, 8, -9, 2);
+        Looks.foundIs(x, 7, 8, -9, 2);
         Checks.due("crash", x.crash(), 0);
-        foundIs(x, 7, 8, -9, 2);
+        Looks.foundIs(x, 7, 8, -9, 2);
         for (int which : new int[] {4, 5, -1, LOW, HIGH}) {
             Checks.due("found " + which, x.found(which), 0);
         }
@@ -188,12 +188,5 @@ public final class QuestionsTest {
         Checks.due("use", x.use(1), true);
         Checks.due("size of the mirror", x.size(), 3);
         Checks.due("done is the same from either volume", x.done(), 5);
-    }
-
-    private static void foundIs(HistoricalTreeStore x, int obj, int key, int value, int born) {
-        Checks.due("found obj", x.found(0), obj);
-        Checks.due("found key", x.found(1), key);
-        Checks.due("found value", x.found(2), value);
-        Checks.due("found born", x.found(3), born);
     }
 }
