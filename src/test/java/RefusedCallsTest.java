@@ -2,29 +2,65 @@ import java.util.function.Consumer;
 import java.util.function.ToLongFunction;
 
 /**
- * 'Changing nothing': in each state of which the document refuses a call, the calls behind the
+ * 'Changing nothing': in each state in which the document refuses a call, the calls behind the
  * refused one answer as if it had not been made. The same is asked of calls that have nothing to do.
+ * The states hold as much as they can - snapshots, a found record, a mirror that is behind - and
+ * come with and without a sync under way, so that whatever a refused call might change would show.
  */
 public final class RefusedCallsTest {
     private static final int LOW = Looks.LOW;
     private static final int HIGH = Looks.HIGH;
-    private static final int[] NO_COUNTS = {0, -1, 51, LOW, HIGH};
 
+    // Whether a sync is under way and questions go to the mirror, or neither.
+    private static boolean underWay;
     private static String state;
     private static Consumer<HistoricalTreeStore> way;
 
     public static void main(String[] args) {
         inANewObject();
-        withOpenChanges();
-        withOpenChangesAskingTheMirror();
-        withFortyChanges();
-        withAFullMaster();
-        withAFullMasterAndOpenChanges();
-        withASyncUnderWay();
-        withFourSnapshots();
         withTheMirrorUpToDate();
         withAFullMirror();
+        for (boolean each : new boolean[] {false, true}) {
+            underWay = each;
+            withNoOpenChange();
+            withOpenChanges();
+            withFortyChanges();
+            withAFullMaster();
+            withAFullMasterAndOpenChanges();
+            withFourSnapshots();
+        }
         Checks.finish();
+    }
+
+    /** Two snapshots, a found record, a mirror that has fallen behind; eight records, done 5. */
+    private static void history(HistoricalTreeStore x) {
+        Runs.fill(x, 0, 6);
+        Runs.commitWrite(x, 1, 0, 50);
+        Runs.commitRemove(x, 2, 0);
+        Runs.syncAll(x);
+        Runs.commitWrite(x, 1, 0, 51);
+        Runs.commitRemove(x, 3, 0);
+        Checks.due("snapshot to begin with", x.snapshot(1), true);
+        Checks.due("snapshot to begin with", x.snapshot(4), true);
+        Checks.due("next to begin with", x.next(0, 0, 4), true);
+    }
+
+    /** If a sync is to be under way, its goal is one transaction old; one record is added. */
+    private static void fallBehind(HistoricalTreeStore x) {
+        if (underWay) {
+            Checks.due("sync to begin with", x.sync(2), 2);
+        }
+        Runs.commitWrite(x, 1, 0, 52);
+        Checks.due("use to begin with", x.use(underWay ? 1 : 0), true);
+    }
+
+    /** Every sort of open change, three records added. */
+    private static void change(HistoricalTreeStore x) {
+        Checks.due("own", x.write(8, 0, 80), true);
+        Checks.due("own, ended", x.write(9, 0, 90), true);
+        Checks.due("own, ended", x.remove(9, 0), true);
+        Checks.due("own, over an older one", x.write(1, 0, 53), true);
+        Checks.due("an older one, ended", x.remove(4, 0), true);
     }
 
     private static void inANewObject() {
@@ -33,57 +69,37 @@ public final class RefusedCallsTest {
         refused("next", x -> bit(x.next(LOW, LOW, 0)), 0);
         refused("sync 1", x -> x.sync(1), -1);
         refused("sync 50", x -> x.sync(50), -1);
-        refused("snapshot 1", x -> bit(x.snapshot(1)), 0);
-        refusedEverywhere(0);
         refused("commit", x -> x.commit(), 0);
         refused("abort", x -> x.abort(), 0);
         refused("crash", x -> x.crash(), 0);
         refused("prune", x -> x.prune(), 0);
+        refusedEverywhere(0);
         questions();
     }
 
-    /** Two snapshots, a mirror that is behind, a found record, and every sort of open change. */
-    private static void history(HistoricalTreeStore x) {
-        Runs.fill(x, 0, 6);
-        Runs.commitWrite(x, 1, 0, 50);
-        Runs.commitRemove(x, 2, 0);
-        Runs.syncAll(x);
-        Runs.commitWrite(x, 1, 0, 51);
-        Runs.commitRemove(x, 3, 0);
-        x.snapshot(1);
-        x.snapshot(4);
-        x.next(0, 0, 4);
-    }
-
-    private static void openChanges(HistoricalTreeStore x) {
-        history(x);
-        Checks.due("own", x.write(8, 0, 80), true);
-        Checks.due("own, ended", x.write(9, 0, 90), true);
-        Checks.due("own, ended", x.remove(9, 0), true);
-        Checks.due("own, over an older one", x.write(1, 0, 52), true);
-        Checks.due("an older one, ended", x.remove(4, 0), true);
+    private static void withNoOpenChange() {
+        in("no open change", x -> {
+            history(x);
+            fallBehind(x);
+        });
+        refused("remove of none", x -> bit(x.remove(2, 0)), 0);
+        refused("commit", x -> x.commit(), 6);
+        refused("abort", x -> x.abort(), 0);
+        refusedEverywhere(6);
+        questions();
     }
 
     private static void withOpenChanges() {
-        in("open changes", RefusedCallsTest::openChanges);
-        removesOfNone();
-        refused("snapshot of done + 1", x -> bit(x.snapshot(6)), 0);
-        refused("prune", x -> x.prune(), -1);
-        refused("next after all", x -> bit(x.next(8, 0, 6)), 0);
-        refused("next at 0", x -> bit(x.next(LOW, LOW, 0)), 0);
-        refusedEverywhere(5);
-        questions();
-    }
-
-    private static void withOpenChangesAskingTheMirror() {
-        in("open changes, questions to the mirror", x -> {
-            openChanges(x);
-            x.use(1);
+        in("open changes", x -> {
+            history(x);
+            fallBehind(x);
+            change(x);
         });
         removesOfNone();
         refused("prune", x -> x.prune(), -1);
-        refused("next after all", x -> bit(x.next(5, 0, 6)), 0);
-        refusedEverywhere(5);
+        refused("next after all", x -> bit(x.next(9, 0, 7)), 0);
+        refused("next at 0", x -> bit(x.next(LOW, LOW, 0)), 0);
+        refusedEverywhere(6);
         questions();
     }
 
@@ -98,12 +114,14 @@ public final class RefusedCallsTest {
 
     private static void withFortyChanges() {
         in("forty changes", x -> {
-            openChanges(x);
+            history(x);
+            fallBehind(x);
+            change(x);
             Runs.rewrite(x, 8, 0, 35);
         });
         refused("write to an own record", x -> bit(x.write(8, 0, 999)), 0);
         refused("write to an own ended record", x -> bit(x.write(9, 0, 999)), 0);
-        refused("write over a new version", x -> bit(x.write(1, 0, 999)), 0);
+        refused("write to an own record over another", x -> bit(x.write(1, 0, 999)), 0);
         refused("write over an older record", x -> bit(x.write(5, 0, 999)), 0);
         refused("write over an ended record", x -> bit(x.write(4, 0, 999)), 0);
         refused("write of a new key", x -> bit(x.write(6, 0, 999)), 0);
@@ -111,63 +129,51 @@ public final class RefusedCallsTest {
         refused("remove of an older record", x -> bit(x.remove(5, 0)), 0);
         removesOfNone();
         refused("prune", x -> x.prune(), -1);
-        refusedEverywhere(5);
+        refusedEverywhere(6);
     }
 
     private static void withAFullMaster() {
-        in("a full master", x -> Runs.fill(x, 0, 100));
+        in("a full master", x -> {
+            history(x);
+            Runs.fill(x, 10, 101);
+            fallBehind(x);
+        });
         refused("write of a new key", x -> bit(x.write(500, 0, 999)), 0);
-        refused("write over a record", x -> bit(x.write(7, 0, 999)), 0);
+        refused("write over a record", x -> bit(x.write(5, 0, 999)), 0);
+        refused("write over an ended record", x -> bit(x.write(2, 0, 999)), 0);
         refused("remove of none", x -> bit(x.remove(500, 0)), 0);
-        refused("commit", x -> x.commit(), 3);
+        refused("commit", x -> x.commit(), 9);
         refused("abort", x -> x.abort(), 0);
-        refused("prune", x -> x.prune(), 0);
-        refusedEverywhere(3);
+        refusedEverywhere(9);
     }
 
     private static void withAFullMasterAndOpenChanges() {
         in("a full master with open changes", x -> {
-            Runs.fill(x, 0, 98);
-            Checks.due("own", x.write(500, 0, 1), true);
-            Checks.due("own, over an older one", x.write(6, 0, 60), true);
-            Checks.due("an older one, ended", x.remove(5, 0), true);
-        });
-        refused("write of a new key", x -> bit(x.write(501, 0, 999)), 0);
-        refused("write over a record", x -> bit(x.write(7, 0, 999)), 0);
-        refused("write over an ended record", x -> bit(x.write(5, 0, 999)), 0);
-        refused("remove of the ended record", x -> bit(x.remove(5, 0)), 0);
-        refused("prune", x -> x.prune(), -1);
-        refusedEverywhere(3);
-    }
-
-    private static void withASyncUnderWay() {
-        in("a sync under way", x -> {
             history(x);
-            Checks.due("sync", x.sync(2), 2);
-            Runs.commitWrite(x, 1, 0, 52);
-            x.use(1);
+            Runs.fill(x, 10, 98);
+            fallBehind(x);
+            change(x);
         });
-        refused("snapshot of done + 1", x -> bit(x.snapshot(7)), 0);
-        refused("remove of none", x -> bit(x.remove(2, 0)), 0);
-        refused("commit", x -> x.commit(), 6);
-        refused("abort", x -> x.abort(), 0);
-        refusedEverywhere(6);
-        questions();
+        refused("write of a new key", x -> bit(x.write(500, 0, 999)), 0);
+        refused("write over a record", x -> bit(x.write(5, 0, 999)), 0);
+        refused("write over a record ended now", x -> bit(x.write(4, 0, 999)), 0);
+        removesOfNone();
+        refused("prune", x -> x.prune(), -1);
+        refusedEverywhere(9);
     }
 
     private static void withFourSnapshots() {
         in("four snapshots", x -> {
             history(x);
+            fallBehind(x);
+            change(x);
             Checks.due("third", x.snapshot(0), true);
             Checks.due("fourth", x.snapshot(5), true);
         });
-        refused("fifth", x -> bit(x.snapshot(2)), 0);
-        refused("fifth", x -> bit(x.snapshot(3)), 0);
-        refused("snapshot of done + 1", x -> bit(x.snapshot(6)), 0);
-        refused("commit", x -> x.commit(), 5);
-        refused("abort", x -> x.abort(), 0);
-        refused("crash", x -> x.crash(), 0);
-        refusedEverywhere(5);
+        for (int t : new int[] {2, 3, 6}) {
+            refused("fifth, " + t, x -> bit(x.snapshot(t)), 0);
+        }
+        refusedEverywhere(6);
         questions();
     }
 
@@ -175,7 +181,8 @@ public final class RefusedCallsTest {
         in("a mirror that is up to date", x -> {
             history(x);
             Runs.syncAll(x);
-            Checks.due("an open change", x.write(7, 0, 70), true);
+            change(x);
+            x.use(1);
         });
         refused("sync 1", x -> x.sync(1), -1);
         refused("sync 50", x -> x.sync(50), -1);
@@ -188,16 +195,20 @@ public final class RefusedCallsTest {
             Runs.fillMirrorAlone(x, 80);
             Runs.fill(x, 0, 21);
             Checks.due("sync", x.sync(50), 20);
+            Runs.commitWrite(x, 3, 0, 33);
+            Checks.due("snapshot", x.snapshot(2), true);
+            Checks.due("next", x.next(3, 0, 5), true);
+            x.use(1);
         });
         refused("sync 1 that finds no room", x -> x.sync(1), 0);
         refused("sync 50 that finds no room", x -> x.sync(50), 0);
         refused("remove of none", x -> bit(x.remove(50, 0)), 0);
-        refusedEverywhere(5);
+        refusedEverywhere(6);
     }
 
     /** What the document refuses in every state; done is the number of the last transaction. */
     private static void refusedEverywhere(int done) {
-        for (int n : NO_COUNTS) {
+        for (int n : new int[] {0, -1, 51, LOW, HIGH}) {
             refused("sync " + n, x -> x.sync(n), -1);
         }
         for (int volume : new int[] {-1, 2, LOW, HIGH}) {
@@ -213,7 +224,7 @@ public final class RefusedCallsTest {
         refused("remove of a far key", x -> bit(x.remove(HIGH, LOW)), 0);
     }
 
-    /** Questions about a key that is nowhere, so that their answers do not depend on the state. */
+    /** Questions change nothing either; these are about a key that is in no state. */
     private static void questions() {
         refused("has", x -> bit(x.has(-3, -3, 1)), 0);
         refused("read", x -> x.read(-3, -3, 1), 0);
@@ -226,7 +237,7 @@ public final class RefusedCallsTest {
     }
 
     private static void in(String name, Consumer<HistoricalTreeStore> calls) {
-        state = name;
+        state = name + (underWay ? " and a sync under way" : "");
         way = calls;
     }
 

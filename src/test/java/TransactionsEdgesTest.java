@@ -4,6 +4,7 @@ public final class TransactionsEdgesTest {
         commitTakesAwayWhatWasNeverSeen();
         commitOfNothingButTheNeverSeen();
         commitTakesManyAway();
+        commitAfterAbortedOnes();
         commitGrowsByOne();
         commitWithNoChange();
         commitWithOnlyRefusedChanges();
@@ -71,6 +72,25 @@ public final class TransactionsEdgesTest {
         for (int obj = 100; obj < 110; obj++) {
             Checks.due("stays", x.read(obj, 0, 2), obj + 1);
         }
+    }
+
+    private static void commitAfterAbortedOnes() {
+        Checks.part("promise 4, what abort took back is not taken away once more");
+        HistoricalTreeStore x = new HistoricalTreeStore();
+        Checks.due("write", x.write(1, 1, 10), true);
+        Checks.due("write", x.write(2, 2, 20), true);
+        Checks.due("remove", x.remove(2, 2), true);
+        Checks.due("abort", x.abort(), 3);
+        Checks.due("write", x.write(1, 1, 11), true);
+        Checks.due("commit", x.commit(), 1);
+        Checks.due("size", x.size(), 1);
+        Looks.lifeIs(x, 1, 1, 11, 1, 0);
+        Checks.due("write", x.write(2, 2, 20), true);
+        Checks.due("write", x.write(3, 3, 30), true);
+        Checks.due("remove", x.remove(3, 3), true);
+        Checks.due("commit", x.commit(), 2);
+        Checks.due("abort of none", x.abort(), 0);
+        Checks.due("size", x.size(), 2);
     }
 
     private static void commitGrowsByOne() {

@@ -11,8 +11,10 @@ final class Twins {
     private static final int LOW = Looks.LOW;
     private static final int HIGH = Looks.HIGH;
 
-    // A walk of so many records, after a hundred of them have been written, stays within 512 calls.
-    private static final int LONGEST_WALK = 55;
+    // With walks of so many records no probe goes beyond the 512 calls that an object is promised
+    // for, even in a state that took two hundred.
+    private static final int LONG_WALK = 55;
+    private static final int SHORT_WALK = 25;
 
     private interface Probe {
         void ask(HistoricalTreeStore x, List<Long> answers);
@@ -22,7 +24,7 @@ final class Twins {
     private static final Probe[] PROBES = {
         Twins::standing, Twins::volumeInUse, Twins::upperMaster, Twins::history, Twins::afterAbort,
         Twins::afterCommit, Twins::afterCrash, Twins::changesLeft, Twins::stepsOfSync,
-        Twins::pruneBoth, Twins::snapshots
+        Twins::pruneBoth, Twins::snapshotsUpwards, Twins::snapshotsDownwards
     };
 
     private Twins() {
@@ -74,18 +76,19 @@ final class Twins {
     }
 
     private static void volumeInUse(HistoricalTreeStore x, List<Long> answers) {
-        walk(x, LOW, x.done() + 1, answers);
+        walk(x, LOW, x.done() + 1, LONG_WALK, answers);
     }
 
     private static void upperMaster(HistoricalTreeStore x, List<Long> answers) {
         x.use(0);
-        walk(x, 49, x.done() + 1, answers);
+        walk(x, 49, x.done() + 1, LONG_WALK, answers);
     }
 
-    private static void walk(HistoricalTreeStore x, int afterObj, int t, List<Long> answers) {
+    private static void walk(HistoricalTreeStore x, int afterObj, int t, int longest,
+            List<Long> answers) {
         int obj = afterObj;
         int key = afterObj == LOW ? LOW : HIGH;
-        for (int i = 0; i < LONGEST_WALK && x.next(obj, key, t); i++) {
+        for (int i = 0; i < longest && x.next(obj, key, t); i++) {
             obj = x.found(0);
             key = x.found(1);
             add(answers, obj);
@@ -110,14 +113,14 @@ final class Twins {
     private static void afterAbort(HistoricalTreeStore x, List<Long> answers) {
         add(answers, x.abort());
         add(answers, x.size());
-        walk(x, LOW, x.done() + 1, answers);
+        walk(x, LOW, x.done() + 1, LONG_WALK, answers);
         add(answers, x.commit());
     }
 
     private static void afterCommit(HistoricalTreeStore x, List<Long> answers) {
         add(answers, x.commit());
         add(answers, x.size());
-        walk(x, LOW, x.done() + 1, answers);
+        walk(x, LOW, x.done() + 1, LONG_WALK, answers);
         sizes(x, answers);
         add(answers, x.abort());
     }
@@ -127,7 +130,7 @@ final class Twins {
         add(answers, x.size());
         add(answers, x.synced());
         add(answers, x.sync(50));
-        walk(x, LOW, x.done() + 1, answers);
+        walk(x, LOW, x.done() + 1, LONG_WALK, answers);
         sizes(x, answers);
     }
 
@@ -165,12 +168,20 @@ final class Twins {
             x.use(volume);
             add(answers, x.prune());
             add(answers, x.size());
-            walk(x, LOW, 1, answers);
+            walk(x, LOW, 1, SHORT_WALK, answers);
         }
     }
 
-    private static void snapshots(HistoricalTreeStore x, List<Long> answers) {
-        for (int t = 0; t <= x.done(); t++) {
+    private static void snapshotsUpwards(HistoricalTreeStore x, List<Long> answers) {
+        int done = x.done();
+        for (int t = 0; t <= done; t++) {
+            add(answers, x.snapshot(t) ? 1 : 0);
+        }
+        pruneBoth(x, answers);
+    }
+
+    private static void snapshotsDownwards(HistoricalTreeStore x, List<Long> answers) {
+        for (int t = x.done(); t >= 0; t--) {
             add(answers, x.snapshot(t) ? 1 : 0);
         }
         pruneBoth(x, answers);
