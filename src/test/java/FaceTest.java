@@ -1,35 +1,23 @@
-import java.io.IOException;
 import java.lang.reflect.Constructor;
 import java.lang.reflect.Field;
 import java.lang.reflect.Method;
 import java.lang.reflect.Modifier;
-import java.nio.file.Files;
-import java.nio.file.Path;
 import java.util.Arrays;
 import java.util.HashSet;
 import java.util.Set;
-import java.util.regex.Matcher;
-import java.util.regex.Pattern;
 
-/** The public face of the document, and the rules of LANGUAGE.md that can be seen from outside. */
+/** The public face of the document, and what LANGUAGE.md says of methods and fields. */
 public final class FaceTest {
-    private static final Path SOURCE = Path.of("src/main/java/HistoricalTreeStore.java");
     private static final String[] FACE = {
         "boolean write(int, int, int)", "boolean remove(int, int)", "int commit()", "int abort()",
         "int crash()", "boolean use(int)", "boolean has(int, int, int)", "int read(int, int, int)",
         "boolean next(int, int, int)", "int found(int)", "boolean snapshot(int)", "int prune()",
         "int sync(int)", "int synced()", "int size()", "int done()"
     };
-    private static final String[] FORBIDDEN = {
-        "import", "package", "float", "double", "String", "Math", "Integer", "System", "Arrays",
-        "null", "throw", "throws", "try", "catch", "synchronized", "assert", "instanceof", "enum",
-        "interface", "record", "extends", "implements", "->", "::"
-    };
 
-    public static void main(String[] args) throws IOException {
+    public static void main(String[] args) {
         face();
         fields();
-        words();
         Checks.finish();
     }
 
@@ -85,23 +73,6 @@ public final class FaceTest {
             if (type.isArray()) {
                 Checks.due("never assigned anew " + field, Modifier.isFinal(modifiers), true);
             }
-        }
-    }
-
-    private static void words() throws IOException {
-        Checks.part("LANGUAGE.md, words");
-        String code = Files.readString(SOURCE)
-                .replaceAll("(?s)/\\*.*?\\*/", "").replaceAll("//[^\n]*", "");
-        for (String word : FORBIDDEN) {
-            String edge = Character.isLetter(word.charAt(0)) ? "\\b" : "";
-            boolean there = Pattern.compile(edge + Pattern.quote(word) + edge).matcher(code).find();
-            Checks.due("'" + word + "'", there, false);
-        }
-        Matcher made = Pattern.compile("[^\n]*\\bnew\\b[^\n]*").matcher(code);
-        while (made.find()) {
-            String line = made.group().trim();
-            boolean isField = line.matches("private final int\\[\\] \\w+ = new int\\[[A-Z_]+\\];");
-            Checks.due("made in a field's initialiser: " + line, isField, true);
         }
     }
 }
